@@ -641,9 +641,9 @@ public final class StrokeRaster {
         }
 
         /**
-         * Bodies, caps and joins but miters reach no further than H twice in each coordinate. (No body is
-         * without area, which would make it endless: the shorter a piece of a dash, the surer one of its
-         * ends is a point of the path, and the other one is rounded away from it along the segment.)
+         * Bodies, caps and joins but miters reach no further than H twice in each coordinate. No body is
+         * without area (it would hold an endless line): a piece shorter than a unit begins or ends at a
+         * point of the path, and rounding moves its other end along the greater difference first.
          */
         private boolean isNear(int i) {
             int reach = 2 * pen.half;

@@ -70,16 +70,16 @@ public final class PromiseTests {
         due("1: joins miter", s.has(1312, 608), true);
         s.clear();
         s.move(0, 0);
-        s.line(1000, 97);
-        s.line(0, 194);
-        // the ratio is 10.36, and 640 is 10 times 64
-        due("1: limit 640", s.has(1150, 97), false);
+        s.line(1000, 25);
+        s.line(0, 199);
+        // offsets (13, -512), (88, 504): H^2 + o . p is 5240, and 640 asks for 5243, 641 for 5227
+        due("1: limit 640", s.has(1300, 1), false);
         s.clear();
         s.move(0, 0);
-        s.line(1000, 102);
-        s.line(0, 204);
-        // 9.86
-        due("1: limit 640, below", s.has(1150, 102), true);
+        s.line(1000, 13);
+        s.line(0, 198);
+        // offsets (7, -512), (93, 503): 5259, and 639 asks for 5260
+        due("1: limit 640, not less", s.has(1300, -14), true);
         StrokeRaster t = new StrokeRaster();
         t.dash(100);
         t.move(0, 640);
@@ -324,6 +324,13 @@ public final class PromiseTests {
         s.pen(128, 0, 1, 640);
         due("8: round", s.has(2045, 955), true);
         due("8: round, beyond", s.has(2046, 954), false);
+        StrokeRaster even = lined(64, 0, 1000, 0, 1000, 1000);
+        even.line(134, 500);
+        // offsets (512, 0) and (-256, 443), so that 128 is the limit itself
+        even.pen(64, 0, 0, 128);
+        due("8: just the limit", even.has(1030, 1045), true);
+        even.pen(64, 0, 0, 127);
+        due("8: beyond the limit", even.has(1030, 1045), false);
         StrokeRaster t = lined(128, 0, 1000, 1000, 2000, 1000);
         t.line(2000, 0);
         due("8: miter, to the right", t.has(2064, 1064), true);
