@@ -9,6 +9,9 @@ import java.util.Random;
  * from fixed seeds.
  */
 public final class DefinitionTests {
+    /** An object is good for 512 calls, and one turn makes a dozen at most. */
+    private static final int LAST_CALL = 500;
+
     private static int wrong = 0;
 
     interface Shape {
@@ -354,6 +357,7 @@ public final class DefinitionTests {
         final int size;
         final int middle;
         boolean stale = true;
+        int calls = 0;
 
         Run(long seed) {
             random = new Random(seed);
@@ -384,6 +388,7 @@ public final class DefinitionTests {
         }
 
         void check(String call, Object got, Object want) {
+            calls++;
             told.append(call).append(" = ").append(got).append('\n');
             if (!got.equals(want)) {
                 wrong++;
@@ -642,7 +647,7 @@ public final class DefinitionTests {
         long start = args.length > 1 ? Long.parseLong(args[1]) : 1;
         for (int i = 0; i < runs; i++) {
             Run run = new Run(start + i);
-            for (int calls = 0; calls < 120; calls++) {
+            for (int turn = 0; turn < 120 && run.calls < LAST_CALL; turn++) {
                 if (run.random.nextInt(3) > 0) {
                     run.change();
                 } else {

@@ -88,6 +88,16 @@ public final class PromiseTests {
         due("1: phase 0, beyond", t.has(101, 640), false);
     }
 
+    /** Tells points up to the 1024th, with curves as far as they go: an object is good for 512 calls alone. */
+    private static void fill(StrokeRaster s) {
+        for (int points = s.count(1); points + 16 <= 1024; points += 16) {
+            due("5: more", s.curve(64 + points, 4000 - 2 * points), points + 16);
+        }
+        for (int points = s.count(1); points < 1024; points++) {
+            due("3: more", s.line(64 + points, 2000 + points), points + 1);
+        }
+    }
+
     private static void moves() {
         StrokeRaster s = new StrokeRaster();
         due("2: first", s.move(-8192, 8191), 1);
@@ -106,10 +116,9 @@ public final class PromiseTests {
         due("2: a point each", s.count(1), 64);
         due("2: no dots", s.count(2), 0);
         StrokeRaster t = new StrokeRaster();
+        t.control(100, 4000, 3000, 200);
         t.move(0, 0);
-        for (int i = 2; i <= 1024; i++) {
-            t.line(i, 0);
-        }
+        fill(t);
         throwsIt("2: 1024 points", STATE, () -> t.move(0, 0));
         due("2: none begun", t.count(0), 1);
         due("2: 1023 pieces", t.count(2), 1023);
@@ -131,9 +140,7 @@ public final class PromiseTests {
         s.close();
         throwsIt("3: closed", STATE, () -> s.line(0, 0));
         s.move(0, 0);
-        for (int i = 5; i <= 1024; i++) {
-            due("3: more", s.line(i & 1, 0), i);
-        }
+        fill(s);
         throwsIt("3: 1025 points", STATE, () -> s.line(0, 0));
         due("3: still 1024", s.count(1), 1024);
     }

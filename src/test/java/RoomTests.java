@@ -21,8 +21,9 @@ public final class RoomTests {
         s.dash(1);
         s.move(0, 640);
         s.line(3999, 640);
-        for (int i = 0; i < 1022; i++) {
-            s.line(3999, 640);
+        s.control(3999, 640, 3999, 640);
+        for (int i = 0; i < 63; i++) {
+            s.curve(3999, 640);
         }
         s.count(2);
         return s;
@@ -44,8 +45,8 @@ public final class RoomTests {
         atMost("the longest stroke", taken() - before, 300_000);
         int sum = askAll(s, 1);
         before = taken();
-        sum += askAll(s, 100);
-        atMost("a hundred pens and five hundred questions", taken() - before, 20_000);
+        sum += askAll(s, 60);
+        atMost("sixty pens and three hundred questions", taken() - before, 20_000);
         before = taken();
         for (int i = 0; i < 512; i++) {
             sum += new StrokeRaster().count(3);
