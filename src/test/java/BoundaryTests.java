@@ -1620,6 +1620,13 @@ public final class BoundaryTests {
         first.move(-10, 4064);
         first.line(4110, 4064);
         due("and then that, too", first.count(3), 4096);
+        first.line(4110, 0);
+        first.move(0, 0);
+        first.line(4096, 4096);
+        due("and then more over it", first.count(3), 4096);
+        due("and then more over it, a row", first.row(5), -1L);
+        due("and then more over it, a share", first.share(5, 5), 16);
+        due("and then more over it, a point", first.has(2000, 2000), true);
     }
 
     /** The pixels of a row whose middles are not further than so much from a corner so far above or below. */
