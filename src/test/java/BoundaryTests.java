@@ -383,6 +383,21 @@ public final class BoundaryTests {
 
     // ---- promise 3
 
+    private static void promise02OnePoint() {
+        says(2, "A subpath of one point that is left has no segment");
+        StrokeRaster s = new StrokeRaster();
+        s.pen(640, 1, 1, 640);
+        s.move(1000, 1000);
+        due("pieces", s.count(2), 0);
+        due("pixels", s.count(3), 0);
+        due("the point itself", s.has(1000, 1000), false);
+        s.move(1000, 1000);
+        due("twice there, pieces", s.count(2), 0);
+        due("twice there", s.has(1000, 1000), false);
+        s.dash(64);
+        due("with dashes", s.has(1000, 1000), false);
+    }
+
     private static void promise03HowMany() {
         says(3, "A line: how many points the path has.");
         StrokeRaster s = new StrokeRaster();
@@ -482,6 +497,22 @@ public final class BoundaryTests {
     }
 
     // ---- promise 4
+
+    private static void promise03Segments() {
+        says(3, "SEGMENTS go from each point to the next one");
+        StrokeRaster s = cornered(64, 2, 640, 1000, 1000, 2000, 1000, 2000, 2000, 3000, 2000);
+        s.move(3500, 2000);
+        s.line(3500, 3000);
+        due("pieces", s.count(2), 4);
+        int[][] in = {{1500, 1000}, {2000, 1500}, {2500, 2000}, {3500, 2500}};
+        for (int[] p : in) {
+            due("a segment's midst", s.has(p[0], p[1]), true);
+        }
+        due("from the first to the third", s.has(1500, 1500), false);
+        due("from the last to the first", s.has(1400, 1200), false);
+        due("from one subpath to the next", s.has(3250, 2000), false);
+        due("from the last to the second", s.has(2500, 1500), false);
+    }
 
     private static void promise04Bounds() {
         says(4, "IllegalArgument: a coordinate is out of bounds.");
@@ -945,6 +976,67 @@ public final class BoundaryTests {
         for (int[] p : near) {
             due("all four corners", flat.has(p[0], p[1]), true);
         }
+    }
+
+    // with a width 10 the offset of (300, 400) is (4, -3), and forward of it (3, 4)
+    private static final int[][] WAYS = {{3, 4}, {4, 3}, {-3, 4}, {-4, 3}, {-3, -4}, {-4, -3}, {3, -4}, {4, -3}};
+
+    private static void promise08Forward() {
+        says(8, "FORWARD of an OFFSET (a, b) is (-b, a)");
+        for (int[] way : WAYS) {
+            int x = 1000 + 100 * way[0];
+            int y = 1000 + 100 * way[1];
+            StrokeRaster s = lined(10, 2, 1000, 1000, x, y);
+            due("forward", s.has(x + way[0], y + way[1]), true);
+            due("forward, to the right", s.has(x + way[0] + way[1], y + way[1] - way[0]), true);
+            due("forward, to the left", s.has(x + way[0] - way[1], y + way[1] + way[0]), true);
+            due("further", s.has(x + 2 * way[0], y + 2 * way[1]), false);
+        }
+    }
+
+    private static void promise08Backward() {
+        says(8, "with f FORWARD of the OFFSET of its piece there (at its beginning, - f), at the point E");
+        for (int[] way : WAYS) {
+            StrokeRaster s = lined(10, 2, 1000, 1000, 1000 + 100 * way[0], 1000 + 100 * way[1]);
+            due("backward", s.has(1000 - way[0], 1000 - way[1]), true);
+            due("backward, to the right", s.has(1000 - way[0] + way[1], 1000 - way[1] - way[0]), true);
+            due("backward, to the left", s.has(1000 - way[0] - way[1], 1000 - way[1] + way[0]), true);
+            due("further back", s.has(1000 - 2 * way[0], 1000 - 2 * way[1]), false);
+        }
+    }
+
+    private static void promise08EitherSign() {
+        says(8, "a point lies in one if (q - p) x (it - p) for all sides from p to q is at least 0, or at most 0, for all of them");
+        // the same corner turned to the left and to the right, and gone both ways: its miter ends at 32 by 32
+        int[][] turns = {{1, 1}, {1, -1}, {-1, 1}, {-1, -1}};
+        for (int[] t : turns) {
+            int[] there = {1000, 2000, 2000, 2000, 2000, 2000 + 1000 * t[1]};
+            int[] back = {2000, 2000 + 1000 * t[1], 2000, 2000, 1000, 2000};
+            StrokeRaster s = t[0] > 0 ? cornered(64, 0, 640, there) : cornered(64, 0, 640, back);
+            due("the tip", s.has(2032, 2000 - 32 * t[1]), true);
+            due("a side of the miter", s.has(2032, 2000 - 16 * t[1]), true);
+            due("its other side", s.has(2016, 2000 - 32 * t[1]), true);
+            due("beyond the side", s.has(2033, 2000 - 16 * t[1]), false);
+            due("beyond the other", s.has(2016, 2000 - 33 * t[1]), false);
+        }
+    }
+
+    private static void promise08OneBehindTheOther() {
+        says(8, "Between pieces one behind the other in a chain");
+        StrokeRaster s = cornered(64, 1, 640, 1000, 1000, 1100, 1000, 1100, 1100);
+        due("a chain", s.has(1120, 980), true);
+        dash(s, 0, 200, 0);
+        due("one dash", s.has(1120, 980), true);
+        dash(s, 0, 100, 0);
+        due("two dashes that meet there, pieces", s.count(2), 2);
+        due("two dashes that meet there", s.has(1120, 980), false);
+        s.plain(0);
+        s.clear();
+        s.move(1000, 1000);
+        s.line(1100, 1000);
+        s.move(1100, 1000);
+        s.line(1100, 1100);
+        due("two subpaths that meet there", s.has(1120, 980), false);
     }
 
     private static void promise08ButtCaps() {
@@ -1668,6 +1760,38 @@ public final class BoundaryTests {
         }
     }
 
+    private static void promise12OverItself() {
+        says(12, "whether a point lies in the stroke is decided in whole numbers, whatever lies over itself");
+        StrokeRaster once = lined(64, 0, 640, 640, 1920, 640);
+        StrokeRaster twice = cornered(64, 2, 640, 640, 640, 1920, 640, 640, 640);
+        StrokeRaster round = cornered(64, 2, 640, 640, 640, 1920, 640, 640, 640, 1920, 640);
+        round.close();
+        for (int x = 600; x <= 1960; x += 8) {
+            due("there and back at " + x, twice.has(x, 640), once.has(x, 640));
+            due("closed, at " + x, round.has(x, 650), once.has(x, 650));
+        }
+        due("there and back, pixels", twice.count(3), once.count(3));
+        due("four times, pixels", round.count(3), once.count(3));
+        StrokeRaster cross = lined(64, 0, 640, 1280, 1920, 1280);
+        cross.move(1280, 640);
+        cross.line(1280, 1920);
+        due("where two cross", cross.has(1280, 1280), true);
+        due("a corner of both", cross.has(1312, 1312), true);
+        due("beyond it", cross.has(1313, 1313), false);
+        // a square gone round to the left, and one inside it to the right: what is between is no part of the stroke
+        StrokeRaster rings = cornered(64, 0, 640, 640, 640, 1920, 640, 1920, 1920, 640, 1920);
+        rings.close();
+        rings.move(960, 960);
+        rings.line(960, 1600);
+        rings.line(1600, 1600);
+        rings.line(1600, 960);
+        rings.close();
+        due("the outer one", rings.has(1280, 640), true);
+        due("the inner one", rings.has(960, 1280), true);
+        due("between", rings.has(800, 1280), false);
+        due("inside", rings.has(1280, 1280), false);
+    }
+
     private static void promise12Farthest() {
         says(12, "Whether a point is in the stroke.");
         // miters that reach some 80,000 units
@@ -1729,6 +1853,21 @@ public final class BoundaryTests {
         due("not the next row", lined(64, 0, 0, 4064, 4096, 4064).row(1), 0L);
         due("a point beside the middle", dotted(31, 32).row(63), 0L);
         due("a point below the middle", dotted(32, 31).row(63), 0L);
+    }
+
+    private static void promise13Upwards() {
+        says(13, "in 64ths of a pixel, y growing upwards");
+        StrokeRaster low = lined(64, 0, 0, 32, 64, 32);
+        due("the lowest row", low.row(63), 1L);
+        due("the row above", low.row(62), 0L);
+        due("one pixel", low.count(3), 1);
+        due("all of it", low.share(0, 63), 16);
+        due("none of its neighbour", low.share(1, 63), 0);
+        StrokeRaster high = lined(64, 0, 4032, 4064, 4096, 4064);
+        due("the highest row", high.row(0), Long.MIN_VALUE);
+        due("the row below", high.row(1), 0L);
+        due("one pixel", high.count(3), 1);
+        due("all of it", high.share(63, 0), 16);
     }
 
     private static void promise13FromOutside() {
